@@ -63,15 +63,14 @@ public final class BookedTest {
     }
 
     private static void bookingRefuses() {
-        LightBursts x = booked();
         int[][] unknown = {{-1, 0}, {2, 0}, {0, -1}, {0, 6}, {MIN, MAX}};
         for (int[] p : unknown) {
-            Check.refused(x, "booking(" + p[0] + ", " + p[1] + ")", -1, y -> y.booking(p[0], p[1], 0, 0));
-            Check.refused(x, "booking(" + p[0] + ", " + p[1] + "), wrong", -1, y -> y.booking(p[0], p[1], -1, 3));
+            Check.refused(booked(), "booking(" + p[0] + ", " + p[1] + ")", -1, y -> y.booking(p[0], p[1], 0, 0));
+            Check.refused(booked(), "booking(" + p[0] + ", " + p[1] + "), wrong", -1, y -> y.booking(p[0], p[1], -1, 3));
         }
         for (int what : new int[] {-1, 3, MIN, MAX}) {
-            Check.refused(x, "booking, what " + what, -2, y -> y.booking(1, 2, 0, what));
-            Check.refused(x, "booking of none, what " + what, -2, y -> y.booking(1, 2, -1, what));
+            Check.refused(booked(), "booking, what " + what, -2, y -> y.booking(1, 2, 0, what));
+            Check.refused(booked(), "booking of none, what " + what, -2, y -> y.booking(1, 2, -1, what));
         }
     }
 
@@ -101,14 +100,13 @@ public final class BookedTest {
     }
 
     private static void heldRefuses() {
-        LightBursts x = delayed();
         for (int line : new int[] {-1, 3, MIN, MAX}) {
-            Check.refused(x, "held(" + line + ")", -1, y -> y.held(line, 0, 0));
-            Check.refused(x, "held(" + line + "), wrong", -1, y -> y.held(line, 0, 3));
+            Check.refused(delayed(), "held(" + line + ")", -1, y -> y.held(line, 0, 0));
+            Check.refused(delayed(), "held(" + line + "), wrong", -1, y -> y.held(line, 0, 3));
         }
         for (int what : new int[] {-1, 3, MIN, MAX}) {
-            Check.refused(x, "held, what " + what, -2, y -> y.held(1, 0, what));
-            Check.refused(x, "held of none, what " + what, -2, y -> y.held(1, 9, what));
+            Check.refused(delayed(), "held, what " + what, -2, y -> y.held(1, 0, what));
+            Check.refused(delayed(), "held of none, what " + what, -2, y -> y.held(1, 9, what));
         }
     }
 
@@ -125,14 +123,13 @@ public final class BookedTest {
     }
 
     private static void busyRefuses() {
-        LightBursts x = booked();
         int[][] unknown = {{-1, 0, 0, 1}, {2, 0, 0, 1}, {0, -1, 0, 1}, {0, 6, 0, 1}, {2, 0, -1, 0}};
         for (int[] p : unknown) {
-            Check.refused(x, "busy, unknown", -1, y -> y.busy(p[0], p[1], p[2], p[3]));
-            Check.refused(x, "next, unknown", -1, y -> y.next(p[0], p[1], p[2], p[3]));
+            Check.refused(booked(), "busy, unknown", -1, y -> y.busy(p[0], p[1], p[2], p[3]));
+            Check.refused(booked(), "next, unknown", -1, y -> y.next(p[0], p[1], p[2], p[3]));
         }
         for (int[] p : WRONG_SPANS) {
-            Check.refused(x, "busy, outside", -2, y -> y.busy(1, 2, p[0], p[1]));
+            Check.refused(booked(), "busy, outside", -2, y -> y.busy(1, 2, p[0], p[1]));
         }
     }
 
@@ -149,13 +146,12 @@ public final class BookedTest {
     }
 
     private static void freeRefuses() {
-        LightBursts x = booked();
         for (int out : new int[] {-1, 2, MIN, MAX}) {
-            Check.refused(x, "free(" + out + ")", -1, y -> y.free(out, 0, 1));
-            Check.refused(x, "free(" + out + "), wrong", -1, y -> y.free(out, -1, 0));
+            Check.refused(booked(), "free(" + out + ")", -1, y -> y.free(out, 0, 1));
+            Check.refused(booked(), "free(" + out + "), wrong", -1, y -> y.free(out, -1, 0));
         }
         for (int[] p : WRONG_SPANS) {
-            Check.refused(x, "free, outside", -2, y -> y.free(1, p[0], p[1]));
+            Check.refused(booked(), "free, outside", -2, y -> y.free(1, p[0], p[1]));
         }
     }
 
@@ -172,9 +168,8 @@ public final class BookedTest {
     }
 
     private static void nextRefuses() {
-        LightBursts x = booked();
         for (int[] p : WRONG_SPANS) {
-            Check.refused(x, "next, outside", -2, y -> y.next(1, 2, p[0], p[1]));
+            Check.refused(booked(), "next, outside", -2, y -> y.next(1, 2, p[0], p[1]));
         }
     }
 
@@ -217,15 +212,14 @@ public final class BookedTest {
     }
 
     private static void holeRefuses() {
-        LightBursts x = booked();
         int[][] unknown = {{-1, 0}, {2, 0}, {0, -1}, {0, 6}, {MAX, MIN}};
         for (int[] p : unknown) {
-            Check.refused(x, "hole, unknown", -1, y -> y.hole(p[0], p[1], 0, 0));
-            Check.refused(x, "hole, unknown and wrong", -1, y -> y.hole(p[0], p[1], -1, 2));
+            Check.refused(booked(), "hole, unknown", -1, y -> y.hole(p[0], p[1], 0, 0));
+            Check.refused(booked(), "hole, unknown and wrong", -1, y -> y.hole(p[0], p[1], -1, 2));
         }
         for (int what : new int[] {-1, 2, MIN, MAX}) {
-            Check.refused(x, "hole, what " + what, -2, y -> y.hole(1, 2, 0, what));
-            Check.refused(x, "hole of none, what " + what, -2, y -> y.hole(1, 2, 9, what));
+            Check.refused(booked(), "hole, what " + what, -2, y -> y.hole(1, 2, 0, what));
+            Check.refused(booked(), "hole of none, what " + what, -2, y -> y.hole(1, 2, 9, what));
         }
     }
 
@@ -277,14 +271,13 @@ public final class BookedTest {
     }
 
     private static void tallyRefuses() {
-        LightBursts x = mixed();
         for (int kind : new int[] {-1, 3, MIN, MAX}) {
-            Check.refused(x, "tally(" + kind + ")", -1, y -> y.tally(kind, 0));
-            Check.refused(x, "tally(" + kind + "), wrong", -1, y -> y.tally(kind, 6));
+            Check.refused(mixed(), "tally(" + kind + ")", -1, y -> y.tally(kind, 0));
+            Check.refused(mixed(), "tally(" + kind + "), wrong", -1, y -> y.tally(kind, 6));
         }
         for (int what : new int[] {-1, 6, MIN, MAX}) {
-            Check.refused(x, "tally, what " + what, -2, y -> y.tally(0, what));
-            Check.refused(x, "tally of none, what " + what, -2, y -> y.tally(2, what));
+            Check.refused(mixed(), "tally, what " + what, -2, y -> y.tally(0, what));
+            Check.refused(mixed(), "tally of none, what " + what, -2, y -> y.tally(2, what));
         }
     }
 
@@ -314,9 +307,8 @@ public final class BookedTest {
     }
 
     private static void countRefuses() {
-        LightBursts x = mixed();
         for (int what : new int[] {-1, 16, 17, 18, 19, 23, MIN, MAX}) {
-            Check.refused(x, "count(" + what + ")", -2, y -> y.count(what));
+            Check.refused(mixed(), "count(" + what + ")", -2, y -> y.count(what));
         }
     }
 }

@@ -42,6 +42,12 @@ public final class BurstsTest {
         return x;
     }
 
+    private static LightBursts withOne() {
+        LightBursts x = narrow();
+        x.tell(0, 0, 0, 1, 8);
+        return x;
+    }
+
     /** Fate, colour, from, ticks, line of a burst. */
     private static void placed(LightBursts x, int burst, String want) {
         Check.row("burst " + burst + " is placed", want, x.burst(burst, 6), x.burst(burst, 7), x.burst(burst, 8),
@@ -57,24 +63,22 @@ public final class BurstsTest {
     }
 
     private static void tellAndWouldRefuse() {
-        LightBursts x = new LightBursts();
-        x.tell(0, 0, 0, 1, 4);
         int[][] unknown = {{-1, 0, 0, 1, 1}, {2, 0, 0, 1, 1}, {0, -1, 0, 1, 1}, {0, 6, 0, 1, 1}, {0, 0, -1, 1, 1},
             {0, 0, 3, 1, 1}, {2, 0, 0, 0, 61}, {0, 6, 0, 9, 0}, {0, 0, 3, MAX, MIN}, {MIN, MAX, MIN, MAX, MIN}};
         int[][] outside = {{0, 0, 0, 0, 1}, {0, 0, 0, 6, 1}, {0, 0, 0, 1, 0}, {0, 0, 0, 1, 61}, {0, 0, 0, -1, -1},
             {0, 0, 0, MAX, 1}, {0, 0, 0, 1, MIN}};
         for (int[] p : unknown) {
-            refusedBoth(x, p, -1);
+            refusedBoth(p, -1);
         }
         for (int[] p : outside) {
-            refusedBoth(x, p, -2);
+            refusedBoth(p, -2);
         }
     }
 
-    private static void refusedBoth(LightBursts x, int[] p, int want) {
+    private static void refusedBoth(int[] p, int want) {
         String told = Arrays.toString(p);
-        Check.refused(x, "tell" + told, want, y -> y.tell(p[0], p[1], p[2], p[3], p[4]));
-        Check.refused(x, "would" + told, want, y -> y.would(p[0], p[1], p[2], p[3], p[4]));
+        Check.refused(withOne(), "tell" + told, want, y -> y.tell(p[0], p[1], p[2], p[3], p[4]));
+        Check.refused(withOne(), "would" + told, want, y -> y.would(p[0], p[1], p[2], p[3], p[4]));
     }
 
     private static void tellIsFullAtFortyEight() {
@@ -401,22 +405,22 @@ public final class BurstsTest {
     }
 
     private static void backRefuses() {
-        LightBursts x = narrow();
-        x.tell(0, 0, 0, 1, 8);
-        x.tell(0, 1, 0, 1, 8);
-        x.tell(0, 2, 0, 2, 8);
-        x.tell(0, 2, 0, 2, 8);
-        for (int burst : new int[] {-1, 4, 47, 48, MIN, MAX}) {
-            Check.refused(x, "back(" + burst + ")", -1, y -> y.back(burst));
+        for (int burst : new int[] {-1, 1, 47, 48, MIN, MAX}) {
+            Check.refused(withOne(), "back(" + burst + ")", -1, y -> y.back(burst));
         }
+        LightBursts x = withOne();
+        x.tell(0, 0, 0, 1, 8);
         x.pass(3);
         Check.due("back one tick before", x.back(0), 8);
         Check.refused(x, "back twice", -5, y -> y.back(0));
         x.pass(1);
-        Check.refused(x, "back as it comes", -3, y -> y.back(1));
         Check.refused(x, "back twice as it comes, STATE ahead of NO", -3, y -> y.back(0));
-        x.pass(4);
-        Check.refused(x, "back of a lost one that has come", -3, y -> y.back(3));
+        Check.refused(x, "back of a lost one as it comes", -3, y -> y.back(1));
+        LightBursts z = withOne();
+        z.pass(4);
+        Check.refused(z, "back as it comes", -3, y -> y.back(0));
+        z.pass(100);
+        Check.refused(z, "back of what has gone", -3, y -> y.back(0));
     }
 
     private static void burstTellsAll() {
@@ -433,14 +437,12 @@ public final class BurstsTest {
     }
 
     private static void burstRefuses() {
-        LightBursts x = narrow();
-        x.tell(0, 0, 0, 1, 8);
         for (int burst : new int[] {-1, 1, 48, MIN, MAX}) {
-            Check.refused(x, "burst(" + burst + ", 0)", -1, y -> y.burst(burst, 0));
-            Check.refused(x, "burst(" + burst + ", 11)", -1, y -> y.burst(burst, 11));
+            Check.refused(withOne(), "burst(" + burst + ", 0)", -1, y -> y.burst(burst, 0));
+            Check.refused(withOne(), "burst(" + burst + ", 11)", -1, y -> y.burst(burst, 11));
         }
         for (int what : new int[] {-1, 11, MIN, MAX}) {
-            Check.refused(x, "burst(0, " + what + ")", -2, y -> y.burst(0, what));
+            Check.refused(withOne(), "burst(0, " + what + ")", -2, y -> y.burst(0, what));
         }
     }
 }

@@ -122,21 +122,20 @@ public final class ImagesTest {
     }
 
     private static void imageRefuses() {
-        LightBursts x = used();
         for (int k : WRONG) {
-            Check.refused(x, "image(" + k + ")", -2, y -> y.image(k));
+            Check.refused(used(), "image(" + k + ")", -2, y -> y.image(k));
         }
     }
 
     private static void restoreRefuses() {
+        Check.refused(used(), "restore(0) of nothing", -3, y -> y.restore(0));
+        Check.refused(used(), "restore(1) of nothing", -3, y -> y.restore(1));
         LightBursts x = used();
-        Check.refused(x, "restore(0) of nothing", -3, y -> y.restore(0));
-        Check.refused(x, "restore(1) of nothing", -3, y -> y.restore(1));
         x.image(1);
         x.pass(1);
         Check.refused(x, "restore(0) of nothing still", -3, y -> y.restore(0));
         for (int k : WRONG) {
-            Check.refused(x, "restore(" + k + ")", -2, y -> y.restore(k));
+            Check.refused(used(), "restore(" + k + ")", -2, y -> y.restore(k));
         }
     }
 }

@@ -69,15 +69,14 @@ public final class RulesTest {
     }
 
     private static void ruleRefuses() {
-        LightBursts x = new LightBursts();
         for (int what = 0; what < 6; what++) {
             int rule = what;
             for (int n : new int[] {LEAST[what] - 1, MOST[what] + 1, Integer.MIN_VALUE, Integer.MAX_VALUE}) {
-                Check.refused(x, "rule(" + rule + ", " + n + ")", -2, y -> y.rule(rule, n));
+                Check.refused(new LightBursts(), "rule(" + rule + ", " + n + ")", -2, y -> y.rule(rule, n));
             }
         }
         for (int what : new int[] {-1, 6, Integer.MIN_VALUE, Integer.MAX_VALUE}) {
-            Check.refused(x, "rule(" + what + ", 1)", -2, y -> y.rule(what, 1));
+            Check.refused(new LightBursts(), "rule(" + what + ", 1)", -2, y -> y.rule(what, 1));
         }
     }
 
@@ -119,15 +118,19 @@ public final class RulesTest {
         Check.row("lengths", "10 11 12", x.count(20), x.count(21), x.count(22));
     }
 
-    private static void lineRefuses() {
+    private static LightBursts withLine() {
         LightBursts x = new LightBursts();
         x.line(1, 5);
+        return x;
+    }
+
+    private static void lineRefuses() {
         for (int line : new int[] {-1, 3, Integer.MIN_VALUE, Integer.MAX_VALUE}) {
-            Check.refused(x, "line(" + line + ", 1)", -1, y -> y.line(line, 1));
-            Check.refused(x, "line(" + line + ", 61)", -1, y -> y.line(line, 61));
+            Check.refused(withLine(), "line(" + line + ", 1)", -1, y -> y.line(line, 1));
+            Check.refused(withLine(), "line(" + line + ", 61)", -1, y -> y.line(line, 61));
         }
         for (int length : new int[] {-1, 61, Integer.MIN_VALUE, Integer.MAX_VALUE}) {
-            Check.refused(x, "line(1, " + length + ")", -2, y -> y.line(1, length));
+            Check.refused(withLine(), "line(1, " + length + ")", -2, y -> y.line(1, length));
         }
     }
 

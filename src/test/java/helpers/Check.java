@@ -50,7 +50,10 @@ final class Check {
         return all.toString();
     }
 
-    /** A call that must be refused, and must change nothing. */
+    /**
+     * A call that must be refused, and must change nothing. It asks for everything twice:
+     * two or three such on one object are enough, as it is promised for 512 calls alone.
+     */
     static void refused(LightBursts x, String what, int want, Call call) {
         String before = everything(x);
         due(what, call.on(x), want);
