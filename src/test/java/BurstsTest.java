@@ -25,6 +25,7 @@ public final class BurstsTest {
         delayedColourHasTheLeastGap();
         wayZeroStillLetsALineBeFilled();
         cutIsTheLongestFirstPiece();
+        cutLiesInTheSpan();
         cutTakesTheNearestColour();
         cutNeedsLeast();
         cutWithWayZero();
@@ -317,6 +318,18 @@ public final class BurstsTest {
         x.rule(1, 9);
         x.tell(0, 0, 0, 1, 6);
         placed(x, 3, "2 0 12 3 -6");
+    }
+
+    /** There is room before and behind 8 to 19, but none within. */
+    private static void cutLiesInTheSpan() {
+        LightBursts x = narrow();
+        x.rule(3, 1);
+        x.tell(0, 0, 0, 1, 1);
+        x.tell(0, 0, 0, 2, 12);
+        x.tell(0, 0, 0, 2, 12);
+        placed(x, 2, "3 -6 -6 0 -6");
+        x.tell(0, 0, 0, 2, 13);
+        placed(x, 3, "2 0 20 1 -6");
     }
 
     private static void cutTakesTheNearestColour() {
