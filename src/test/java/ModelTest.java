@@ -46,10 +46,10 @@ public final class ModelTest {
     }
 
     private void setUp(int run) {
-        both(run, 0, random.nextInt(3), odd(6));
+        both(run, "rule", random.nextInt(3), odd(6));
         for (int line = 0; line < 3; line++) {
             if (random.nextBoolean()) {
-                both(run, 1, line, random.nextInt(12));
+                both(run, "line", line, random.nextInt(12));
             }
         }
     }
@@ -65,90 +65,68 @@ public final class ModelTest {
 
     private void ask(int run, int dice) {
         if (dice < 18) {
-            both(run, 3, odd(outs), odd(6), odd(3), 1 + odd(hops), 1 + odd(random.nextBoolean() ? 12 : 60));
+            both(run, "tell", odd(outs), odd(6), odd(3), 1 + odd(hops), 1 + odd(random.nextBoolean() ? 12 : 60));
         } else if (dice < 26) {
-            both(run, 4, odd(outs), odd(6), odd(3), 1 + odd(hops), 1 + odd(60));
+            both(run, "would", odd(outs), odd(6), odd(3), 1 + odd(hops), 1 + odd(60));
         } else if (dice < 31) {
-            both(run, 2, random.nextInt(20) == 0 ? 195 + random.nextInt(8) : odd(9));
+            both(run, "pass", random.nextInt(20) == 0 ? 195 + random.nextInt(8) : odd(9));
         } else if (dice < 35) {
             int what = odd(6);
-            both(run, 0, what, what == 3 ? odd(62) : what < 3 ? odd(7) : odd(2));
+            both(run, "rule", what, what == 3 ? odd(62) : what < 3 ? odd(7) : odd(2));
         } else if (dice < 38) {
-            both(run, 1, odd(3), random.nextInt(5) == 0 ? odd(63) : odd(12));
+            both(run, "line", odd(3), random.nextInt(5) == 0 ? odd(63) : odd(12));
         } else if (dice < 43) {
-            both(run, 5, odd(Math.max(1, model.count(1))));
+            both(run, "back", odd(Math.max(1, model.count(1))));
         } else if (dice < 55) {
-            both(run, 6, odd(Math.max(1, model.count(1))), odd(11));
+            both(run, "burst", odd(Math.max(1, model.count(1))), odd(11));
         } else if (dice < 62) {
-            both(run, 7, odd(outs), odd(6), odd(8) - 1, odd(3));
+            both(run, "booking", odd(outs), odd(6), odd(8) - 1, odd(3));
         } else if (dice < 66) {
-            both(run, 8, odd(3), odd(6) - 1, odd(3));
+            both(run, "held", odd(3), odd(6) - 1, odd(3));
         } else if (dice < 71) {
-            both(run, 9, odd(outs), odd(6), from(), 1 + odd(90));
+            both(run, "busy", odd(outs), odd(6), from(), 1 + odd(90));
         } else if (dice < 75) {
-            both(run, 10, odd(outs), from(), 1 + odd(40));
+            both(run, "free", odd(outs), from(), 1 + odd(40));
         } else if (dice < 80) {
-            both(run, 11, odd(outs), odd(6), from(), 1 + odd(40));
+            both(run, "next", odd(outs), odd(6), from(), 1 + odd(40));
         } else if (dice < 86) {
-            both(run, 12, odd(outs), odd(6), odd(6) - 1, odd(2));
+            both(run, "hole", odd(outs), odd(6), odd(6) - 1, odd(2));
         } else if (dice < 90) {
-            both(run, 13, odd(3), odd(6));
+            both(run, "tally", odd(3), odd(6));
         } else if (dice < 95) {
-            both(run, 14, odd(23));
+            both(run, "count", odd(23));
         } else if (dice < 97) {
-            both(run, 15, odd(2));
+            both(run, "image", odd(2));
         } else if (dice < 99) {
-            both(run, 16, odd(2));
+            both(run, "restore", odd(2));
         } else {
-            both(run, 9, odd(outs), odd(6), 20000, 1999 + odd(3));
+            both(run, "busy", odd(outs), odd(6), 20000, 1999 + odd(3));
         }
     }
 
-    private void both(int run, int call, int... a) {
-        int[] p = Arrays.copyOf(a, 5);
-        Check.due("run " + run + " call " + call + Arrays.toString(a), ofClass(call, p), ofModel(call, p));
+    private void both(int run, String name, int... p) {
+        Asked call = new Asked(name, p);
+        Check.due("run " + run + " " + call, call.on(x), ofModel(name, p));
     }
 
-    private int ofClass(int call, int[] p) {
-        return switch (call) {
-            case 0 -> x.rule(p[0], p[1]);
-            case 1 -> x.line(p[0], p[1]);
-            case 2 -> x.pass(p[0]);
-            case 3 -> x.tell(p[0], p[1], p[2], p[3], p[4]);
-            case 4 -> x.would(p[0], p[1], p[2], p[3], p[4]);
-            case 5 -> x.back(p[0]);
-            case 6 -> x.burst(p[0], p[1]);
-            case 7 -> x.booking(p[0], p[1], p[2], p[3]);
-            case 8 -> x.held(p[0], p[1], p[2]);
-            case 9 -> x.busy(p[0], p[1], p[2], p[3]);
-            case 10 -> x.free(p[0], p[1], p[2]);
-            case 11 -> x.next(p[0], p[1], p[2], p[3]);
-            case 12 -> x.hole(p[0], p[1], p[2], p[3]);
-            case 13 -> x.tally(p[0], p[1]);
-            case 14 -> x.count(p[0]);
-            case 15 -> x.image(p[0]);
-            default -> x.restore(p[0]);
-        };
-    }
-
-    private int ofModel(int call, int[] p) {
-        return switch (call) {
-            case 0 -> model.rule(p[0], p[1]);
-            case 1 -> model.line(p[0], p[1]);
-            case 2 -> model.pass(p[0]);
-            case 3 -> model.tell(p[0], p[1], p[2], p[3], p[4]);
-            case 4 -> model.would(p[0], p[1], p[2], p[3], p[4]);
-            case 5 -> model.back(p[0]);
-            case 6 -> model.burst(p[0], p[1]);
-            case 7 -> model.booking(p[0], p[1], p[2], p[3]);
-            case 8 -> model.held(p[0], p[1], p[2]);
-            case 9 -> model.busy(p[0], p[1], p[2], p[3]);
-            case 10 -> model.free(p[0], p[1], p[2]);
-            case 11 -> model.next(p[0], p[1], p[2], p[3]);
-            case 12 -> model.hole(p[0], p[1], p[2], p[3]);
-            case 13 -> model.tally(p[0], p[1]);
-            case 14 -> model.count(p[0]);
-            case 15 -> model.image(p[0]);
+    private int ofModel(String name, int[] p) {
+        return switch (name) {
+            case "rule" -> model.rule(p[0], p[1]);
+            case "line" -> model.line(p[0], p[1]);
+            case "pass" -> model.pass(p[0]);
+            case "tell" -> model.tell(p[0], p[1], p[2], p[3], p[4]);
+            case "would" -> model.would(p[0], p[1], p[2], p[3], p[4]);
+            case "back" -> model.back(p[0]);
+            case "burst" -> model.burst(p[0], p[1]);
+            case "booking" -> model.booking(p[0], p[1], p[2], p[3]);
+            case "held" -> model.held(p[0], p[1], p[2]);
+            case "busy" -> model.busy(p[0], p[1], p[2], p[3]);
+            case "free" -> model.free(p[0], p[1], p[2]);
+            case "next" -> model.next(p[0], p[1], p[2], p[3]);
+            case "hole" -> model.hole(p[0], p[1], p[2], p[3]);
+            case "tally" -> model.tally(p[0], p[1]);
+            case "count" -> model.count(p[0]);
+            case "image" -> model.image(p[0]);
             default -> model.restore(p[0]);
         };
     }

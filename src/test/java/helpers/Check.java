@@ -1,18 +1,44 @@
+import java.io.IOException;
+import java.io.UncheckedIOException;
+import java.nio.file.Files;
+import java.nio.file.Path;
 import java.util.StringJoiner;
 
 /** Counts and prints the answers that are not as due, and ends a test with the exit code for that. */
 final class Check {
+    private static final Path DOCUMENT = Path.of("../shared/DOC.md");
+
     private static int asked = 0;
     private static int wrong = 0;
+    private static String document = "";
+    private static String sentence = "";
 
     private Check() {
+    }
+
+    /** What is asked from here on is asked for this sentence, which must stand so in the document. */
+    static void says(String words) {
+        if (document.isEmpty()) {
+            document = read(DOCUMENT).replaceAll("\\s+", " ");
+        }
+        sentence = "";
+        due("whether the document says '" + words + "'", document.contains(words), true);
+        sentence = "'" + words + "': ";
+    }
+
+    private static String read(Path path) {
+        try {
+            return Files.readString(path);
+        } catch (IOException e) {
+            throw new UncheckedIOException(e);
+        }
     }
 
     static void due(String what, Object got, Object want) {
         asked++;
         if (!want.equals(got)) {
             wrong++;
-            System.out.println(what + " answered " + got + ", due is " + want);
+            System.out.println(sentence + what + " answered " + got + ", due is " + want);
         }
     }
 
