@@ -28,13 +28,13 @@ public final class LightBursts {
     /** What no refusal equals: the arguments of a call are as told. */
     private static final int FINE = 0;
 
-    private final Book book = new Book();
+    private final Placer placer = new Placer();
+    private final Book book = placer.book;
+    private final Track track = placer.track;
+
     private final Book firstImage = new Book();
     private final Book secondImage = new Book();
     private int keptImages = 0;
-
-    private final Track track = new Track();
-    private final Placer placer = new Placer(book, track);
 
     public LightBursts() {
     }
@@ -587,10 +587,10 @@ public final class LightBursts {
         }
     }
 
-    /** PLACES a BURST as NOW, RULES and BOOKINGS are, and books nothing until it is asked to. */
+    /** PLACES a BURST in its book, as NOW, RULES and BOOKINGS are there, and books nothing until it is asked to. */
     private static final class Placer {
-        private final Book book;
-        private final Track track;
+        private final Book book = new Book();
+        private final Track track = new Track();
 
         private int out = 0;
         private int colour = 0;
@@ -602,11 +602,6 @@ public final class LightBursts {
         private int bookedFrom = NONE;
         private int bookedTicks = 0;
         private int byLine = NONE;
-
-        private Placer(Book book, Track track) {
-            this.book = book;
-            this.track = track;
-        }
 
         private void place(int out, int colour, int comes, int ticks) {
             this.out = out;

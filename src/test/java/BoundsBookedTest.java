@@ -20,6 +20,7 @@ public final class BoundsBookedTest {
         holesBehindNow();
         holesWithAnyTick();
         holeIsRefused();
+        tallyOfAClass();
         tallyIsNone();
         tallyIsRefused();
         countsOfBursts();
@@ -48,6 +49,10 @@ public final class BoundsBookedTest {
             all.row("booking(1, 5, " + i + ", *)", "0 2", (i + 1) + " " + (47 - i));
         }
         all.row("booking(1, 5, *, 1)", "-1 0 47 48", "-6 1 1 -6").due("count(7)", 48);
+        // With all that can be BOOKED on one COLOUR, the other questions are answered, too.
+        Run asked = fortyEight().does("rule(1, 1)", "rule(3, 1)").row("next(1, 5, *, 1)", "0 1 48 49", "0 49 49 49")
+                .row("busy(1, 5, 0, *)", "1 49 2000", "0 48 48").row("free(1, *, 1)", "0 1 48 49", "63 31 31 63");
+        asked.row("would(1, 5, 0, 1, *)", "48 49", "3 2").row("hole(1, 5, *, 1)", "0 1", "1 -6").row("tally(1, *)", "0 2 4 5", "48 48 0 1");
     }
 
     /** TICKS 48 to 1 of COLOUR 5 of OUT 1 are booked for a BURST each, the last TICK first. */
@@ -202,7 +207,8 @@ public final class BoundsBookedTest {
     }
 
     private static void holeIsNone() {
-        Check.says("from where on (what = 0), how many TICKS (1); NONE: there is none such (i below 0, too). VOIDS");
+        Check.says("Of the i-th VOID of a COLOUR of an OUT, from 0 on: from where on (what = 0), how many TICKS (1); NONE: there is none "
+                + "such (i below 0, too).");
         new Run().row("hole(0, 0, *, 0)", "MIN -1 0 MAX", "-6 -6 -6 -6");
         // Behind the last BOOKING there is no VOID.
         four().row("hole(0, 0, *, 0)", "MIN -1 0 1 2 3 47 MAX", "-6 -6 0 15 25 -6 -6 -6")
@@ -212,8 +218,8 @@ public final class BoundsBookedTest {
     }
 
     private static void holesBehindNow() {
-        Check.says("for each BOOKING on it that begins behind NOW the SPAN from the greatest of NOW and the END of the BOOKING before "
-                + "that, if there is one, up to where it begins");
+        Check.says("VOIDS, by rising TICKS: for each BOOKING on it that begins behind NOW the SPAN from the greatest of NOW and the "
+                + "END of the BOOKING before that, if there is one, up to where it begins");
         four().does("pass(4)").row("hole(0, 0, *, 0)", "0 1", "4 15").due("hole(0, 0, 0, 1)", 1);
         four().does("pass(5)").row("hole(0, 0, *, 0)", "0 1 2", "15 25 -6");
         four().does("pass(14)").row("hole(0, 0, *, 0)", "0 1 2", "15 25 -6").due("hole(0, 0, 0, 1)", 5);
@@ -244,8 +250,17 @@ public final class BoundsBookedTest {
                 .row("hole(0, 0, 0, *)", "0 1", "0 5");
     }
 
+    private static void tallyOfAClass() {
+        Check.says("The TALLY of a CLASS: how many BURSTS (what = 0), TICKS (1), TICKS that are BOOKED (2), BURSTS that are LOST (3)");
+        // Of CLASS 0, of 46 TICKS: 8 thrice SENT, 8 DELAYED, 4 of 12 CUT, 2 LOST; the only other of CLASS 1 is TAKEN BACK.
+        Scenes.worn().row("tally(0, *)", "0 1 2 3 4 5", "6 46 36 1 5 23").row("tally(1, *)", "0 1 2 3 4 5", "1 4 4 0 0 1")
+                .row("tally(2, *)", "0 1 2 3 4 5", "1 60 60 0 0 1");
+        // Of CLASS 0 a SENT one, a DELAYED one and 22 LOST; of CLASS 2 as many, but for the last, which is TAKEN BACK.
+        Scenes.full().row("tally(0, *)", "0 1 2 3 4 5", "24 240 20 22 11 12").row("tally(2, *)", "0 1 2 3 4 5", "23 460 40 21 21 23");
+    }
+
     private static void tallyIsNone() {
-        Check.says("the upper number (4), the lower one (5; 4 and 5 NONE: there are no TICKS).");
+        Check.says("TICKS that are not BOOKED, by all TICKS: the upper number (4), the lower one (5; 4 and 5 NONE: there are no TICKS).");
         new Run().row("tally(0, *)", "0 1 2 3 4 5", "0 0 0 0 -6 -6").row("tally(2, *)", "0 1 2 3 4 5", "0 0 0 0 -6 -6");
         // One TICK is enough, SENT or LOST; none is left when it is TAKEN BACK.
         Run.of("tell(0, 0, 2, 1, 1)").row("tally(2, *)", "0 1 2 3 4 5", "1 1 1 0 0 1").row("tally(1, *)", "4 5", "-6 -6")

@@ -299,6 +299,10 @@ public final class BoundsPlacingTest {
         alone().tells(0, 0, 8, 4).tells(0, 0, 18, 9).tells(0, 0, 10, 10).placed(2, "2 0 12 6 -6");
         alone().tells(0, 0, 11, 8).tells(0, 0, 10, 10).placed(1, "2 0 10 1 -6");
         alone().tells(0, 0, 9, 12).tells(0, 0, 10, 10).placed(1, LOST);
+        // Nor is the room between one that has ENDED before it and one that laps over it.
+        alone().tells(0, 0, 1, 1).tells(0, 0, 9, 12).tells(0, 0, 10, 10).placed(2, LOST);
+        alone().tells(0, 0, 1, 1).tells(0, 0, 10, 9).tells(0, 0, 10, 10).placed(2, "2 0 19 1 -6");
+        alone().tells(0, 0, 1, 9).tells(0, 0, 10, 9).tells(0, 0, 10, 10).placed(2, "2 0 19 1 -6");
         alone().tells(0, 0, 10, 10).tells(0, 0, 10, 10).placed(1, LOST).tells(0, 0, 10, 11).placed(2, "2 0 20 1 -6")
                 .tells(0, 0, 9, 11).placed(3, "2 0 9 1 -6");
     }
@@ -344,7 +348,8 @@ public final class BoundsPlacingTest {
         Check.says("if this has LEAST TICKS or more, the PIECE is BOOKED, and what is not of it is lost.");
         for (int least : new int[] {1, 2, 3, 30, 58, 59}) {
             Run run = Run.of("rule(0, 0)", "rule(3, " + least + ")").tells(0, 0, 10, 1);
-            run.again().tells(0, 0, 10, least + 1).placed(1, "2 0 11 " + least + " -6").row("tally(0, *)", "1 2 3", (least + 2) + " " + (least + 1) + " 0");
+            run.again().tells(0, 0, 10, least + 1).placed(1, "2 0 11 " + least + " -6")
+                    .row("tally(0, *)", "1 2 3", (least + 2) + " " + (least + 1) + " 0");
             run.tells(0, 0, 10, least).placed(1, LOST).row("tally(0, *)", "1 2 3", (least + 1) + " 1 1");
         }
         // A PIECE is never of 60 TICKS: what is FREE for all of the SPAN is SENT.

@@ -38,7 +38,8 @@ public final class BoundsRefusalsTest {
             cornersOfEveryCall(scene);
             rulesAtTheirCorners(scene);
         }
-        Check.says("Calls that are refused answer the first of these that fits");
+        Check.says("Calls that are refused answer the first of these that fits: UNKNOWN -1 (no such OUT, COLOUR, CLASS, LINE, BURST), "
+                + "OUTSIDE -2 (another number is not as told), STATE -3, NO -5 (both as told with the call), FULL -4.");
         unknownAheadOfNo();
         outsideAheadOfNo();
         outsideAheadOfState();

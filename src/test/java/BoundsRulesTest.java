@@ -39,7 +39,7 @@ public final class BoundsRulesTest {
     }
 
     private static void ruleAnswersWhichItWas() {
-        Check.says("is n from now on (BOOKINGS stay): which it was.");
+        Check.says("REACH (what = 0), HOP (1), AHEAD (2), LEAST (3), CUTS (4), WAY (5) is n from now on (BOOKINGS stay): which it was.");
         new Run().due("rule(0, 5)", 5).due("rule(0, 0)", 5).due("rule(0, 0)", 0).due("rule(0, 5)", 0).due("rule(1, 20)", 4)
                 .due("rule(1, 1)", 20).due("rule(2, 0)", 8).due("rule(2, 20)", 0).due("rule(3, 60)", 3).due("rule(3, 1)", 60)
                 .due("rule(4, 0)", 1).due("rule(4, 1)", 0).due("rule(5, 0)", 1).due("rule(5, 1)", 0)
@@ -61,7 +61,7 @@ public final class BoundsRulesTest {
     }
 
     private static void ruleIsOutside() {
-        Check.says("REACH (what = 0), HOP (1), AHEAD (2), LEAST (3), CUTS (4), WAY (5)");
+        Check.says("which it was. OUTSIDE: both.");
         new Run().refused("rule(-1, 0)", -2).refused("rule(-1, 1)", -2).refused("rule(6, 0)", -2).refused("rule(6, 1)", -2)
                 .refused("rule(MIN, 1)", -2).refused("rule(MAX, 1)", -2).refused("rule(6, 61)", -2).refused("rule(-1, -1)", -2);
         int[][] ranges = {{0, 5}, {1, 20}, {0, 20}, {1, 60}, {0, 1}, {0, 1}};

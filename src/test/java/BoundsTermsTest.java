@@ -19,6 +19,7 @@ public final class BoundsTermsTest {
         hopsAndTicks();
         whenABurstComes();
         itsSpan();
+        bookingsAreOfOneBurst();
         noTwoClash();
         tallyLeavesOut();
         Check.end();
@@ -219,6 +220,14 @@ public final class BoundsTermsTest {
         Check.says("Its SPAN: from there on, as many TICKS as it has.");
         Run.of("tell(0, 0, 1, 2, 1)", "tell(1, 0, 2, 1, 60)").row("booking(0, 0, 0, *)", "0 1", "16 1")
                 .row("booking(1, 0, 0, *)", "0 1", "20 60").row("busy(1, 0, *, 1)", "19 20 79 80", "0 1 1 0");
+    }
+
+    private static void bookingsAreOfOneBurst() {
+        Check.says("BOOKINGS are SPANS, each of one BURST, on a COLOUR of an OUT, or on a LINE.");
+        // BOOKINGS that touch are two still, and so they are told.
+        Scenes.narrow(5, 5).tells(0, 0, 10, 5).does("line(0, 20)").tells(0, 0, 5, 5).tells(0, 0, 10, 5).row("count(*)", "7 8", "4 2")
+                .row("booking(0, 0, *, 2)", "0 1 2 3 4", "0 1 2 3 -6").row("booking(0, 0, *, 0)", "0 1 2 3", "5 10 25 30")
+                .row("held(0, *, 2)", "0 1 2", "2 3 -6").row("held(0, *, 1)", "0 1", "5 5");
     }
 
     /** Crowded in either WAY: however it is told, no TICK is booked twice on a COLOUR of an OUT, or on a LINE. */

@@ -72,7 +72,7 @@ public final class ModelTest {
             both(run, "pass", random.nextInt(20) == 0 ? 195 + random.nextInt(8) : odd(9));
         } else if (dice < 35) {
             int what = odd(6);
-            both(run, "rule", what, what == 3 ? odd(62) : what < 3 ? odd(7) : odd(2));
+            both(run, "rule", what, what == 3 ? odd(62) : what < 3 ? odd(random.nextBoolean() ? 7 : 22) : odd(2));
         } else if (dice < 38) {
             both(run, "line", odd(3), random.nextInt(5) == 0 ? odd(63) : odd(12));
         } else if (dice < 43) {
