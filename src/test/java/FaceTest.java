@@ -6,6 +6,7 @@ import java.lang.reflect.Modifier;
 import java.nio.file.Files;
 import java.nio.file.Path;
 import java.util.Arrays;
+import java.util.List;
 import java.util.Set;
 import java.util.TreeSet;
 import java.util.regex.Matcher;
@@ -14,6 +15,10 @@ import java.util.regex.Pattern;
 /** The public face of the document, and those rules of LANGUAGE.md that a text or a mirror shows. */
 public final class FaceTest {
     private static final Path SOURCE = Path.of("src/main/java/LightBursts.java");
+    private static final Path DOCUMENT = Path.of("../shared/DOC.md");
+    /** What the class takes of the library; LANGUAGE.md has more, and what is new here must be looked up there. */
+    private static final Set<String> LIBRARY = Set.of("Math.max", "Math.min", "Math.abs", "System.arraycopy", "RULE_AT_FIRST.clone");
+    private static final int MOST_LINES = 60;
 
     public static void main(String[] args) throws IOException {
         constants();
@@ -22,6 +27,10 @@ public final class FaceTest {
         fields();
         nestedClasses();
         words();
+        faceAsTheDocumentHasIt();
+        partsAsTheInterfaceSays();
+        libraryAndTypes();
+        methodsAreShort();
         Check.end();
     }
 
@@ -100,13 +109,70 @@ public final class FaceTest {
         return all;
     }
 
+    private static String code() throws IOException {
+        return Files.readString(SOURCE).replaceAll("(?s)/\\*.*?\\*/", " ").replaceAll("//[^\n]*", " ");
+    }
+
     private static void words() throws IOException {
-        String code = Files.readString(SOURCE).replaceAll("(?s)/\\*.*?\\*/", " ").replaceAll("//[^\n]*", " ");
+        String code = code();
         Matcher ruledOut = Pattern.compile("\\b(throw|throws|try|catch|synchronized|assert|import|package|protected"
                 + "|Exact|System\\.(?!arraycopy)\\w+|Thread|Random|Object|equals|hashCode|toString)\\b|->|::").matcher(code);
         while (ruledOut.find()) {
             Check.due("a word that LANGUAGE.md rules out", ruledOut.group(), "none");
         }
         Check.due("the source holds ASCII alone", code.chars().allMatch(sign -> sign < 128), true);
+    }
+
+    /** Line by line, with the names of the parameters, and nothing public beside. */
+    private static void faceAsTheDocumentHasIt() throws IOException {
+        String document = Files.readString(DOCUMENT);
+        int from = document.indexOf("```java") + "```java".length();
+        String face = document.substring(from, document.indexOf("```", from));
+        List<String> due = face.lines().map(String::strip).filter(line -> line.startsWith("public "))
+                .map(line -> line.endsWith(");") ? line.replace(");", ") {") : line).toList();
+        List<String> found = code().lines().map(String::strip).filter(line -> line.contains("public ")).toList();
+        Check.due("the public lines of the class", String.join("\n", found), String.join("\n", due));
+    }
+
+    private static void partsAsTheInterfaceSays() throws IOException {
+        String source = Files.readString(SOURCE);
+        Matcher part = Pattern.compile("Ahead of the calls (.*) the interface says: (---- \\d [a-z ]+)\\.").matcher(Files.readString(DOCUMENT));
+        int parts = 0;
+        while (part.find()) {
+            parts++;
+            String first = part.group(1).split("`")[1];
+            int says = source.indexOf("// " + part.group(2) + "\n");
+            int call = source.indexOf("public int " + first + "(");
+            Check.due(part.group(2) + " stands right ahead of " + first,
+                    says >= 0 && source.substring(says, Math.max(says, call)).lines().filter(line -> !line.isBlank()).count() == 1, true);
+        }
+        Check.due("how many parts the interface has", parts, 4);
+    }
+
+    private static void libraryAndTypes() throws IOException {
+        Matcher used = Pattern.compile("\\b([A-Z]\\w*)\\.(\\w+)").matcher(code());
+        while (used.find()) {
+            Check.due(used.group() + " is of the library that the class takes", LIBRARY.contains(used.group()), true);
+        }
+        Matcher type = Pattern.compile("\\b(?:new|private|final|static) ([A-Z][a-z]\\w*)").matcher(code());
+        while (type.find()) {
+            Check.due(type.group(1) + " is a class of its own", Set.of("Placer", "Book", "Track").contains(type.group(1)), true);
+        }
+    }
+
+    private static void methodsAreShort() throws IOException {
+        List<String> source = Files.readAllLines(SOURCE);
+        Pattern head = Pattern.compile("( +)(?:public|private) .*\\) \\{");
+        int methods = 0;
+        for (int at = 0; at < source.size(); at++) {
+            Matcher method = head.matcher(source.get(at));
+            if (method.matches()) {
+                methods++;
+                int lines = source.subList(at, source.size()).indexOf(method.group(1) + "}") + 1;
+                Check.due(source.get(at).strip() + " has at most " + MOST_LINES + " lines", lines > 0 && lines <= MOST_LINES, true);
+            }
+        }
+        int compiled = Arrays.stream(allClasses()).mapToInt(type -> type.getDeclaredMethods().length).sum();
+        Check.due("how many methods and constructors were looked at", methods, compiled + 1);
     }
 }

@@ -132,13 +132,25 @@ final class Run {
             Run run = again();
             answers.add(first + ": " + run.ask(first));
             List<Asked> questions = questions(run.ask("count(1)"));
-            for (Asked question : questions) {
-                if (run.howManyCalls() == PROMISED) {
-                    run = again();
-                    run.ask(first);
-                }
-                answers.add(first + ", " + question + ": " + run.ask(question));
+            List<Integer> told = answers(first, questions);
+            for (int i = 0; i < questions.size(); i++) {
+                answers.add(first + ", " + questions.get(i) + ": " + told.get(i));
             }
+        }
+        return answers;
+    }
+
+    /** The answers to questions behind a first call, of as many objects like this one as are needed to ask them all. */
+    List<Integer> answers(String first, List<Asked> questions) {
+        List<Integer> answers = new ArrayList<>();
+        Run run = again();
+        run.ask(first);
+        for (Asked question : questions) {
+            if (run.howManyCalls() == PROMISED) {
+                run = again();
+                run.ask(first);
+            }
+            answers.add(run.ask(question));
         }
         return answers;
     }
